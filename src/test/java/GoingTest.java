@@ -12,6 +12,7 @@ final class GoingTest {
         owes();
         monthPays();
         monthPaysByNumbers();
+        monthOfFullHouse();
         monthByLaw();
         due.end();
     }
@@ -133,6 +134,10 @@ final class GoingTest {
         due.is("18 changes nothing", x.owes(1, 0), 70);
         due.is("18 all it has", x.pay(1, 0, 20), 0);
         due.is("18 fifty are owed", x.owes(1, 0), 50);
+        x.lend(2, 1, 50);
+        due.is("18 all it has and owes", x.pay(1, 0, 50), 0);
+        due.is("18 nothing is owed", x.owes(1, 0), 0);
+        x.lend(0, 2, 50);
         x.lend(2, 0, 10);
         x.lend(2, 1, 99989);
         due.is("18 ring of the lender", x.of(2, 2), 0);
@@ -140,7 +145,7 @@ final class GoingTest {
         due.is("18 nearly full", x.lend(1, 2, 99690), 299);
         due.is("18 more than a ring has", x.pay(1, 2, 299), 0);
         due.is("18 what is more is lost", x.of(2, 2), 99999);
-        due.is("18 it is owed no more", x.owes(1, 2), 99989 - 299);
+        due.is("18 it is owed no more", x.owes(1, 2), 50 + 99989 - 299);
         int[][] bad = {
             {-1, 1, 5}, {3, 1, 5}, {0, -1, 5}, {0, 3, 5}, {1, 1, 5}, {1, 0, 0}, {1, 0, -1},
             {MIN, 1, 5}, {0, MAX, 5}, {1, 0, MIN}, {1, 0, 100000}, {1, 0, MAX}};
@@ -216,6 +221,20 @@ final class GoingTest {
         due.is("20 lost ones are owed no more", y.count(4), 0);
         due.is("20 a ring that is full stays so", y.of(0, 2), 99999);
         due.is("20 the other ring then", y.of(1, 2), 9994 + 9999);
+    }
+
+    private static void monthOfFullHouse() {
+        StepRings x = Due.made("ab1,ab1,ab1,ab1,ab1,ab1,ab1,ab1,ab1,ab1,ab1,ab1,ab1,ab1,ab1,ab1,ab1,ab1,ab1,ab1,ab1,ab1,ab1,ab2",
+            "ag9,ag9,ag9,ag9,ag9,ag9,ag9,bg9");
+        due.is("15 by the first of 24", x.go(7, 0), 8);
+        due.is("15 none with 24", x.go(7, 2), -4);
+        x.lend(7, 0, 3);
+        x.lend(0, 7, 5);
+        due.is("20 the first and the last", x.month(), 8);
+        due.is("20 nothing is owed", x.count(4), 0);
+        due.is("20 the last one's ring", x.of(7, 2), 400);
+        due.is("20 the last one is home", x.of(7, 3), 1);
+        due.is("20 all rings", x.count(3), 3200);
     }
 
     private static void monthByLaw() {

@@ -266,6 +266,8 @@ final class HousesTest {
         x.drop(1);
         x.sheet(2, 0, 5);
         x.way(0, 3, 1, 0);
+        due.is("30 far before", x.far(0, 0, 3), 1);
+        x.go(1, 3);
         x.gate(0, false);
         x.gate(1, true);
         x.person(5, 3, 1);
