@@ -773,7 +773,10 @@ public final class StepRings {
             int sets = 1 << world.errands;
             for (int set = 0; set < sets; set++) {
                 for (int e = 0; e < world.errands; e++) {
-                    rest[set * MOST_ERRANDS + e] = through(set, costs, world.errandPlace[e], home);
+                    // who is at errand e has it behind him
+                    if ((set >> e & 1) == 0) {
+                        rest[set * MOST_ERRANDS + e] = through(set, costs, world.errandPlace[e], home);
+                    }
                 }
                 whole[set] = through(set, costs, world.people.place[person], home);
             }
