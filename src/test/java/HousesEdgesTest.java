@@ -20,6 +20,7 @@ final class HousesEdgesTest {
         wellsNearest();
         wellsNoneAboveWorst();
         wellsFirstAsARow();
+        wellsAtEachRow();
         wellsAtTheEnds();
         wells();
         holdSteps();
@@ -87,6 +88,8 @@ final class HousesEdgesTest {
             .is("tour(0, -1)", 0).after("go(0, 2)").is("tour(0, -1)", 11).refuses("tour(0, 0)", NONE)
             .after("errand(2)").is("tour(0, -1)", 11).is("tour(1, -1)", 4 + 1 + 1 + 10).after("errand(0)").is("tour(0, -1)", 11).is("tour(1, -1)", 5 + 11 + 10 + 10)
             .after("errand(3)").is("tour(0, -1)", 11 + 4 + 10)
+            // from c the way home leads over d and b, whatever is nearer to home
+            .is("tour(0, 0)", 0).is("tour(0, 1)", 2).is("tour(0, 2)", 1)
             // the ring does not matter, and nobody goes
             .is("of(0, 3)", 2).is("of(1, 3)", 3).is("of(1, 2)", 0)
             // no way leads home, though one is where the errand is
@@ -124,6 +127,11 @@ final class HousesEdgesTest {
         new Edge(25, said).town("ab5,bc5,cd5,da5", 4).people("ag0", 1).after("errand(3)", "errand(2)", "errand(1)").is("tour(0, -1)", 20)
             .is("tour(0, 0)", 0).is("tour(0, 1)", 1).is("tour(0, 2)", 2);
         new Edge(25, said).town("ab5,bc5,cd5,da5", 4).people("ag0", 1).after("errand(2)", "errand(3)", "errand(1)").is("tour(0, 0)", 1).is("tour(0, 1)", 0).is("tour(0, 2)", 2);
+        // b, and from there c, not d, though d is as near to home as b is
+        new Edge(25, said).town("ab5,bc5,cd5,da5", 4).people("ag0", 1).after("errand(1)", "errand(3)", "errand(2)").is("tour(0, 0)", 0).is("tour(0, 1)", 2).is("tour(0, 2)", 1);
+        // from home either order costs the same, from where one is now only one of them is least
+        new Edge(25, said).town("ab1,bc1,cd1", 3).people("ag9", 1).after("errand(1)", "errand(2)").is("tour(0, 0)", 0).is("tour(0, 1)", 1).after("go(0, 3)").is("tour(0, -1)", 3)
+            .is("tour(0, 0)", 1).is("tour(0, 1)", 0);
     }
 
     private static void tourOfSix() {
@@ -204,6 +212,20 @@ final class HousesEdgesTest {
             .is("wells(2, 99999, -1)", 10).is("wells(3, 99999, 0)", 0).is("wells(3, 99999, 1)", 1).is("wells(3, 99999, 2)", 2).is("wells(3, 99999, -1)", 5);
     }
 
+    /** Each row of places is looked at: people live apart at just such a row. */
+    private static void wellsAtEachRow() {
+        for (int a = 0; a < 12; a++) {
+            for (int b = a + 1; b < 12; b++) {
+                new Edge(26, "the i-th PLACE (0 .. k - 1).").after("person(" + b + ", 0, 0)", "person(" + a + ", 0, 0)").is("wells(2, 0, -1)", 0).is("wells(2, 0, 0)", a).is("wells(2, 0, 1)", b);
+                for (int c = b + 1; c < 12; c++) {
+                    new Edge(26, "the i-th PLACE (0 .. k - 1).").after("person(" + b + ", 0, 0)", "person(" + c + ", 0, 0)", "person(" + a + ", 0, 0)").is("wells(3, 0, -1)", 0)
+                        .is("wells(3, 0, 0)", a).is("wells(3, 0, 1)", b).is("wells(3, 0, 2)", c);
+                }
+            }
+            new Edge(26, "the i-th PLACE (0 .. k - 1).").after("person(" + a + ", 0, 0)").is("wells(1, 0, -1)", 0).is("wells(1, 0, 0)", a);
+        }
+    }
+
     private static void wellsAtTheEnds() {
         // the last row of places that there is, and one apart for each
         new Edge(26, "k PLACES (1 .. 3)").people("jg0,kg0,lg0", 3).refuses("wells(1, 99999, -1)", NONE).refuses("wells(2, 99999, -1)", NONE).is("wells(3, 0, -1)", 0)
@@ -269,6 +291,8 @@ final class HousesEdgesTest {
         // a row of ways that was found first takes the middle way the one way, the next gives it back
         new Edge(28, "(both ways each), so that nobody can come from a PLACE to another one.").town("bc1,ab1,cd1,ac1,bd1", 5).is("stops(0, 3)", 2).is("stops(3, 0)", 2).is("stops(1, 2)", 3);
         new Edge(28, "(both ways each), so that nobody can come from a PLACE to another one.").town("cb1,ab1,cd1,ac1,bd1", 5).is("stops(0, 3)", 2).is("stops(3, 0)", 2).is("stops(2, 1)", 3);
+        // a way that is given back is free again, both ways
+        new Edge(28, "(both ways each), so that nobody can come from a PLACE to another one.").town("ba1,cb1,cd1,bd1,bd1,ca1,ac1", 7).is("stops(0, 3)", 3).is("stops(3, 0)", 3);
         // a slope or a gate stops nobody
         new Edge(28, "so that nobody can come from a PLACE to another one.").town("a+9b99g,a-9b99", 2).is("stops(0, 1)", 2).is("stops(1, 0)", 2);
     }

@@ -154,7 +154,9 @@ final class TextsEdgesTest {
 
     private static void lettersOfPeople() {
         new Edge(13, "a letter (HOME),").people("ag1,lg1", 2).is("of(0, 0)", 0).is("of(1, 0)", 11).is("of(0, 3)", 0).is("of(1, 3)", 11)
-            .noPeople("mg1", -20).noPeople("`g1", -20).noPeople("Ag1", -20).noPeople("1g1", -20).noPeople("+g1", -20);
+            .noPeople("mg1", -20).noPeople("`g1", -20).noPeople("Ag1", -20).noPeople("1g1", -20).noPeople("+g1", -20)
+            // a kind without a home
+            .noPeople("o1", -20).noPeople("p1", -20).noPeople("g1", -21).noPeople("c1", -21).noPeople("ag1,o1", -24).noPeople("ag1,p1", -24);
     }
 
     private static void kindsOfPeople() {
