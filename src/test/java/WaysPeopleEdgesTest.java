@@ -29,6 +29,7 @@ final class WaysPeopleEdgesTest {
         costs();
         farOfTheSame();
         farIsLeast();
+        farOfKindsInAnyOrder();
         far();
         given();
         rule();
@@ -239,6 +240,21 @@ final class WaysPeopleEdgesTest {
             .after("way(0, 1, 99, 8)").is("far(0, 0, 1)", 123).is("far(0, 0, 11)", 10 * 126 + 123)
             .after("way(5, 7, 98, 0)").is("far(0, 5, 7)", 98).is("far(0, 7, 5)", 98).is("far(1, 7, 5)", 196)
             .after("way(5, 6, 1, 0)", "way(6, 7, 97, 0)").is("far(0, 5, 7)", 98).after("way(6, 7, 96, 0)").is("far(0, 5, 7)", 97).is("far(0, 7, 5)", 97);
+    }
+
+    /** What is known of one kind is not known of another, whoever asks first. */
+    private static void farOfKindsInAnyOrder() {
+        String said = "FAR of one from a PLACE to a PLACE: the least COSTS together of WAYS that lead there";
+        int[] least = {16, 32, 21, 10};
+        for (int first = 0; first < 4; first++) {
+            for (int second = 0; second < 4; second++) {
+                Edge e = new Edge(8, said).people("ag0,ac0,ao0,ap0", 4).after("way(0, 1, 10, 2)");
+                e.is("far(" + first + ", 0, 1)", least[first]).is("far(" + second + ", 0, 1)", least[second]);
+                // another town: what was known of the old one is not told of it
+                e.town("cd7", 1).refuses("far(" + second + ", 0, 1)", NONE).refuses("far(" + first + ", 0, 1)", NONE);
+                e.after("way(0, 1, 10, 2)").is("far(" + second + ", 0, 1)", least[second]).is("far(" + first + ", 0, 1)", least[first]);
+            }
+        }
     }
 
     private static void far() {
