@@ -1,9 +1,5 @@
-import java.lang.reflect.InvocationTargetException;
-import java.lang.reflect.Method;
 import java.util.ArrayList;
-import java.util.HashMap;
 import java.util.List;
-import java.util.Map;
 
 /**
  * One sentence of the document, tried where it ends: calls on one new object, each with the answer that is due.
@@ -17,27 +13,8 @@ final class Edge {
     /** The document's: later answers are free. */
     private static final int MOST_CALLS = 512;
 
-    private static final Map<String, Method> FACE = new HashMap<>();
     private static int asked;
     private static int wrong;
-
-    static {
-        for (Method m : StepRings.class.getDeclaredMethods()) {
-            FACE.put(m.getName(), m);
-        }
-    }
-
-    private record Call(Method method, Object[] arguments) {
-        int on(StepRings x) {
-            try {
-                return (Integer) method.invoke(x, arguments);
-            } catch (InvocationTargetException e) {
-                throw new IllegalStateException("a call threw", e.getCause());
-            } catch (IllegalAccessException e) {
-                throw new IllegalStateException(e);
-            }
-        }
-    }
 
     private final String head;
     private final List<Call> script = new ArrayList<>();
@@ -69,14 +46,14 @@ final class Edge {
 
     /** Makes a call, whose answer is due. */
     Edge is(String call, long want) {
-        same(head + call, run(parsed(call)), want);
+        same(head + call, run(Call.parsed(call)), want);
         return this;
     }
 
     /** Makes calls that only lead to where the sentence is tried; none of them is refused. */
     Edge after(String... calls) {
         for (String call : calls) {
-            int got = run(parsed(call));
+            int got = run(Call.parsed(call));
             if (got < 0) {
                 same(head + call + " is not refused", got, 0);
             }
@@ -103,13 +80,13 @@ final class Edge {
     }
 
     private Edge answers(String call, String text, int want) {
-        same(head + call + " of \"" + text + "\"", run(parsed(call)), want);
+        same(head + call + " of \"" + text + "\"", run(Call.parsed(call)), want);
         return this;
     }
 
     /** A call that is refused, and changes nothing. */
     Edge refuses(String call, int want) {
-        return changesNothing(call, List.of(parsed(call)), want);
+        return changesNothing(call, List.of(Call.parsed(call)), want);
     }
 
     /** A text that is no town; the tape is empty before and then. */
@@ -124,7 +101,7 @@ final class Edge {
 
     private Edge fault(String call, String text, int want) {
         List<Call> calls = typing(text);
-        calls.add(parsed(call));
+        calls.add(Call.parsed(call));
         return changesNothing(call + " of \"" + text + "\"", calls, want);
     }
 
@@ -202,45 +179,9 @@ final class Edge {
         List<Call> calls = new ArrayList<>();
         for (int i = 0; i < text.length(); i += 8) {
             int n = Math.min(8, text.length() - i);
-            calls.add(parsed("type(" + Due.packed(text.substring(i, i + n)) + ", " + n + ")"));
+            calls.add(Call.parsed("type(" + Due.packed(text.substring(i, i + n)) + ", " + n + ")"));
         }
         return calls;
-    }
-
-    private static Call parsed(String text) {
-        int open = text.indexOf('(');
-        Method m = open < 0 ? null : FACE.get(text.substring(0, open));
-        if (m == null || !text.endsWith(")")) {
-            throw new IllegalArgumentException("no call: " + text);
-        }
-        String inside = text.substring(open + 1, text.length() - 1).trim();
-        String[] parts = inside.isEmpty() ? new String[0] : inside.split(",\\s*");
-        Class<?>[] types = m.getParameterTypes();
-        if (parts.length != types.length) {
-            throw new IllegalArgumentException("not its arguments: " + text);
-        }
-        Object[] arguments = new Object[parts.length];
-        for (int i = 0; i < parts.length; i++) {
-            arguments[i] = argument(types[i], parts[i]);
-        }
-        return new Call(m, arguments);
-    }
-
-    private static Object argument(Class<?> type, String text) {
-        if (type == boolean.class) {
-            return Boolean.valueOf(text);
-        }
-        boolean ofLong = type == long.class;
-        long v;
-        switch (text) {
-            case "MIN": v = ofLong ? Long.MIN_VALUE : Integer.MIN_VALUE; break;
-            case "MAX": v = ofLong ? Long.MAX_VALUE : Integer.MAX_VALUE; break;
-            default: v = Long.parseLong(text); break;
-        }
-        if (ofLong) {
-            return v;
-        }
-        return Math.toIntExact(v);
     }
 
     private static String difference(String a, String b) {
